@@ -1,0 +1,94 @@
+/** What the tests share: an object that takes texts, and answers that are compared with those that are due. */
+final class Check {
+    private static int wrong = 0;
+
+    private Check() {
+    }
+
+    static void same(String what, Object got, Object due) {
+        if (!due.equals(got)) {
+            wrong++;
+            System.out.println(what + " answered " + got + ", due is " + due);
+        }
+    }
+
+    static void finish() {
+        System.exit(wrong == 0 ? 0 : 1);
+    }
+
+    static boolean feed(FormulaCode x, String bytes) {
+        boolean fed = true;
+        for (int from = 0; from < bytes.length(); from += 20) {
+            int[] v = new int[5];
+            for (int k = from; k < from + 20 && k < bytes.length(); k++) {
+                v[(k - from) / 4] |= (bytes.charAt(k) & 255) << (24 - (k - from) % 4 * 8);
+            }
+            fed &= x.feed(v[0], v[1], v[2], v[3], v[4]);
+        }
+        return fed;
+    }
+
+    static void text(FormulaCode x, String text) {
+        same("feed and end of " + text, feed(x, text) && x.end(text.length()), true);
+    }
+
+    /** The number of the sheet, or the name of the exception. */
+    static String sheet(FormulaCode x, String name) {
+        text(x, name);
+        return sheetOfText(x);
+    }
+
+    static String sheetOfText(FormulaCode x) {
+        try {
+            return String.valueOf(x.sheet());
+        } catch (IllegalArgumentException e) {
+            return "IllegalArgumentException";
+        } catch (IllegalStateException e) {
+            return "IllegalStateException";
+        }
+    }
+
+    /** How many numbers the code of the text has that is there, or the name of the exception. */
+    static String compile(FormulaCode x) {
+        try {
+            return String.valueOf(x.compile());
+        } catch (IllegalArgumentException e) {
+            return "IllegalArgumentException";
+        } catch (IllegalStateException e) {
+            return "IllegalStateException";
+        }
+    }
+
+    /** The code of a text, its numbers with blanks between; or the name of the exception. */
+    static String code(FormulaCode x, String formula) {
+        text(x, formula);
+        String answer = compile(x);
+        return answer.startsWith("Illegal") ? answer : code(x, Integer.parseInt(answer));
+    }
+
+    static String code(FormulaCode x, int count) {
+        StringBuilder numbers = new StringBuilder();
+        for (int k = 0; k < count; k++) {
+            numbers.append(k == 0 ? "" : " ").append(x.word(k));
+        }
+        return numbers.toString();
+    }
+
+    static String printed(FormulaCode x) {
+        int count = x.print();
+        StringBuilder characters = new StringBuilder();
+        for (int k = 0; k < count; k++) {
+            characters.append((char) x.output(k));
+        }
+        same("output behind the last of " + characters, x.output(count), 0);
+        return characters.toString();
+    }
+
+    static String name(FormulaCode x, int n) {
+        StringBuilder characters = new StringBuilder();
+        for (int i = 0; x.name(n, i) != 0; i++) {
+            characters.append((char) x.name(n, i));
+        }
+        return characters.toString();
+    }
+}
