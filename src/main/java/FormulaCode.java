@@ -22,10 +22,10 @@ public final class FormulaCode {
     private static final int LAST_COLUMN = 16384;
     private static final int LAST_ROW = 1048576;
 
-    // No character of a text gives more than four numbers of code (a NUMBER of one digit does).
-    private static final int MOST_NUMBERS = 4 * MOST_CHARACTERS;
-    // Of all tokens 1E20 grows most when it is printed: from four characters to 21.
-    private static final int MOST_PRINTED = 21 * MOST_CHARACTERS / 4;
+    // The most that two characters can give: four numbers for a NUMBER of one digit, one for the sign behind it.
+    private static final int MOST_NUMBERS = MOST_CHARACTERS / 2 * 5;
+    // Of all tokens 1E20 grows most when it is printed: with the sign behind it from 5 characters to 22.
+    private static final int MOST_PRINTED = (MOST_CHARACTERS / 5 + 1) * 22;
     // A STRING of nothing but quotes is printed with two for each, and one at both ends.
     private static final int LONGEST_PIECE = 2 * LONGEST_STRING + 2;
 
@@ -728,13 +728,14 @@ public final class FormulaCode {
 
         /** Whether a PLACE or RANGE stands at a place; it isn't written yet. */
         boolean findReference(int from) {
-            for (shape = OF_PLACES; shape <= OF_ROWS; shape += 16) {
-                boolean withColumn = shape != OF_ROWS;
-                boolean withRow = shape != OF_COLUMNS;
+            for (int tried = OF_PLACES; tried <= OF_ROWS; tried += 16) {
+                boolean withColumn = tried != OF_ROWS;
+                boolean withRow = tried != OF_COLUMNS;
                 if (first.isAt(text, from, withColumn, withRow)) {
                     int behind = first.end;
                     isPair = text.get(behind) == ':' && second.isAt(text, behind + 1, withColumn, withRow);
-                    if (isPair || shape == OF_PLACES) {
+                    if (isPair || tried == OF_PLACES) {
+                        shape = tried;
                         end = isPair ? second.end : behind;
                         return true;
                     }

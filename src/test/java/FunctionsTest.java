@@ -1,6 +1,7 @@
 /** Promises 5 and 11: every function with its number, its arguments and its printed word. */
 public final class FunctionsTest {
-    private static final String TABLE = "SUM 1 30, PRODUCT 1 30, COUNT 1 30, COUNTA 1 30, COUNTBLANK 1 1, AVERAGE 1 30, AVERAGEA 1 30, MIN 1 "
+    private static final String TABLE = ""
+        + "SUM 1 30, PRODUCT 1 30, COUNT 1 30, COUNTA 1 30, COUNTBLANK 1 1, AVERAGE 1 30, AVERAGEA 1 30, MIN 1 "
         + "30, MAX 1 30, MINA 1 30, MAXA 1 30, SUMSQ 1 30, SUMPRODUCT 1 30, SUMIF 2 3, COUNTIF 2 2, AVERAGEIF 2 "
         + "3, SUMIFS 3 29, COUNTIFS 2 30, MEDIAN 1 30, MODE 1 30, LARGE 2 2, SMALL 2 2, RANK 2 3, VAR 1 30, "
         + "VARP 1 30, AVEDEV 1 30, DEVSQ 1 30, PERCENTILE 2 2, QUARTILE 2 2, ABS 1 1, INT 1 1, TRUNC 1 2, ROUND "

@@ -96,8 +96,8 @@ public final class PrintTest {
 
     private static void longest() {
         FormulaCode x = new FormulaCode();
-        Check.code(x, "=1E20" + "+1E20".repeat(203) + "+10");
-        String print = "=1" + "0".repeat(20) + ("+1" + "0".repeat(20)).repeat(203) + "+10";
+        Check.code(x, "=1E20" + "+1E20".repeat(203) + "+9E9");
+        String print = "=1" + "0".repeat(20) + ("+1" + "0".repeat(20)).repeat(203) + "+9000000000";
         Check.same("the longest print", Check.printed(x), print);
         x.again();
         Check.same("its first 1024", Check.compile(x), String.valueOf(47 * 5 - 1));

@@ -205,7 +205,10 @@ public final class RandomTest {
     }
 
     private int some(int most) {
-        return 1 + (random.nextInt(4) == 0 ? most - 1 - random.nextInt(3) : random.nextInt(random.nextBoolean() ? 5 : most));
+        if (random.nextInt(4) == 0) {
+            return most - random.nextInt(3);
+        }
+        return 1 + random.nextInt(random.nextBoolean() ? 5 : most);
     }
 
     private void reference() {
