@@ -1,5 +1,7 @@
 /** What the tests share: an object that takes texts, and answers that are compared with those that are due. */
 final class Check {
+    private static final int PART = 400;
+
     private static int wrong = 0;
 
     private Check() {
@@ -72,6 +74,53 @@ final class Check {
             numbers.append(k == 0 ? "" : " ").append(x.word(k));
         }
         return numbers.toString();
+    }
+
+    /** A new object with sheets. */
+    static FormulaCode fresh(String... sheets) {
+        FormulaCode x = new FormulaCode();
+        for (int k = 0; k < sheets.length; k++) {
+            same("sheet " + sheets[k], sheet(x, sheets[k]), String.valueOf(k));
+        }
+        return x;
+    }
+
+    /** A formula's code, or the exception's name. No object has more calls than the 512 that are promised. */
+    static String codeInParts(String formula, String... sheets) {
+        StringBuilder numbers = new StringBuilder();
+        int count = 1;
+        for (int from = 0; from < count; from += PART) {
+            FormulaCode x = fresh(sheets);
+            text(x, formula);
+            String answer = compile(x);
+            if (answer.startsWith("Illegal")) {
+                return answer;
+            }
+            count = Integer.parseInt(answer);
+            for (int k = from; k < from + PART && k < count; k++) {
+                numbers.append(k == 0 ? "" : " ").append(x.word(k));
+            }
+            same("the number behind the last of " + formula, x.word(count), 0);
+            same("illAt of " + formula, x.illAt(), FormulaCode.NONE);
+        }
+        return numbers.toString();
+    }
+
+    /** A formula's print. No object has more calls than the 512 that are promised. */
+    static String printInParts(String formula, String... sheets) {
+        StringBuilder characters = new StringBuilder();
+        int count = 1;
+        for (int from = 0; from < count; from += PART) {
+            FormulaCode x = fresh(sheets);
+            text(x, formula);
+            compile(x);
+            count = x.print();
+            for (int k = from; k < from + PART && k < count; k++) {
+                characters.append((char) x.output(k));
+            }
+            same("the character behind the last of " + formula, x.output(count), 0);
+        }
+        return characters.toString();
     }
 
     static String printed(FormulaCode x) {

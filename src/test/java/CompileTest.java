@@ -15,9 +15,7 @@ public final class CompileTest {
     }
 
     private static void due(String formula, String code) {
-        x = new FormulaCode();
-        Check.same(formula, Check.code(x, formula), code);
-        Check.same("illAt of " + formula, x.illAt(), FormulaCode.NONE);
+        Check.same(formula, Check.codeInParts(formula), code);
     }
 
     private static void numbers() {

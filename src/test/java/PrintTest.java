@@ -95,17 +95,13 @@ public final class PrintTest {
     }
 
     private static void longest() {
-        FormulaCode x = new FormulaCode();
-        Check.code(x, "=1E20" + "+1E20".repeat(203) + "+9E9");
+        String formula = "=1E20" + "+1E20".repeat(203) + "+9E9";
         String print = "=1" + "0".repeat(20) + ("+1" + "0".repeat(20)).repeat(203) + "+9000000000";
-        Check.same("the longest print", Check.printed(x), print);
-        x.again();
-        Check.same("its first 1024", Check.compile(x), String.valueOf(47 * 5 - 1));
-        Check.same("cut in the 47th", Check.printed(x), print.substring(0, 1024));
-        Check.code(x, "=" + "-".repeat(1022) + "a");
-        Check.same("many signs", Check.printed(x), "=" + "-".repeat(1022) + "a");
-        Check.code(x, "=\"" + "\"\"".repeat(255) + "\"&\"" + "~".repeat(255) + "\"");
-        Check.same("long strings", Check.printed(x), "=\"" + "\"\"".repeat(255) + "\"&\"" + "~".repeat(255) + "\"");
+        Check.same("the longest print", Check.printInParts(formula), print);
+        String signs = "=" + "-".repeat(1022) + "a";
+        Check.same("many signs", Check.printInParts(signs), signs);
+        String quotes = "=\"" + "\"\"".repeat(255) + "\"&\"" + "~".repeat(255) + "\"";
+        Check.same("long strings", Check.printInParts(quotes), quotes);
     }
 
     private static void outputStays() {

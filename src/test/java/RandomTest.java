@@ -26,14 +26,6 @@ public final class RandomTest {
         Check.finish();
     }
 
-    private static FormulaCode withSheets() {
-        FormulaCode x = new FormulaCode();
-        for (String name : SHEETS) {
-            Check.sheet(x, name);
-        }
-        return x;
-    }
-
     private void tryFormula() {
         text = new StringBuilder("=");
         print = new StringBuilder("=");
@@ -43,25 +35,29 @@ public final class RandomTest {
         if (text.length() > 1024 || names.size() > 200) {
             return;
         }
-        FormulaCode x = withSheets();
         StringBuilder due = new StringBuilder();
         for (int number : code) {
             due.append(due.length() == 0 ? "" : " ").append(number);
         }
-        Check.same("code of " + text, Check.code(x, text.toString()), due.toString());
-        Check.same("print of " + text, Check.printed(x), print.toString());
+        Check.same("code of " + text, Check.codeInParts(text.toString(), SHEETS), due.toString());
+        Check.same("print of " + text, Check.printInParts(text.toString(), SHEETS), print.toString());
+        if (print.length() <= 1024) {
+            Check.same("code of " + print, Check.codeInParts(print.toString(), SHEETS), due.toString());
+        }
+        FormulaCode x = Check.fresh(SHEETS);
+        Check.text(x, text.toString());
+        Check.compile(x);
         Check.same("names of " + text, x.names(), names.size());
         for (int n = 0; n < names.size(); n++) {
             Check.same("a name of " + text, Check.name(x, n), names.get(n));
         }
-        if (print.length() <= 1024) {
+        if (x.print() <= 1024) {
             x.again();
             Check.same("again of " + text, Check.compile(x), String.valueOf(code.size()));
-            Check.same("code again of " + text, Check.code(x, code.size()), due.toString());
         }
         text.setLength(random.nextInt(text.length()));
-        String cut = Check.code(x, text.toString());
-        boolean isIll = cut.equals("IllegalArgumentException");
+        Check.text(x, text.toString());
+        boolean isIll = Check.compile(x).equals("IllegalArgumentException");
         Check.same("illAt of " + text, isIll ? x.illAt() >= 0 && x.illAt() <= text.length() : x.illAt() == -1, true);
     }
 
@@ -71,7 +67,7 @@ public final class RandomTest {
         for (int k = random.nextInt(30); k > 0; k--) {
             noise.append(signs.charAt(random.nextInt(signs.length())));
         }
-        FormulaCode x = withSheets();
+        FormulaCode x = Check.fresh(SHEETS);
         String answer = Check.code(x, noise.toString());
         boolean isIll = answer.startsWith("Illegal");
         Check.same("illAt of " + noise, isIll ? x.illAt() >= 1 && x.illAt() <= noise.length() : x.illAt() == -1, true);
