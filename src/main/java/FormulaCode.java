@@ -301,10 +301,10 @@ public final class FormulaCode {
     }
 
     private static int xOf(int begin) {
-        return begin >> 4;
+        return begin >>> 4;
     }
 
-    /** How many numbers the item has that begins with a number. */
+    /** How many numbers the item has that begins with a number; at least 1, so that a walk over the code ends. */
     private static int itemSize(int begin) {
         switch (kindOf(begin)) {
             case NUMBER:

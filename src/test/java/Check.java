@@ -10,8 +10,14 @@ final class Check {
     static void same(String what, Object got, Object due) {
         if (!due.equals(got)) {
             wrong++;
-            System.out.println(what + " answered " + got + ", due is " + due);
+            System.out.println(shortened(what) + " answered " + shortened(got) + ", due is " + shortened(due));
         }
+    }
+
+    private static String shortened(Object any) {
+        String text = String.valueOf(any);
+        int length = text.length();
+        return length <= 300 ? text : text.substring(0, 200) + " .. " + text.substring(length - 80);
     }
 
     static void finish() {

@@ -19,6 +19,7 @@ public final class StateEdgesTest {
         twoHundredNames();
         namesOfCalls();
         refusedCompileChangesNothing();
+        nothingIsLeftOfIllTexts();
         placesOfIll();
         numbersOfCode();
         charactersOfNames();
@@ -297,6 +298,24 @@ public final class StateEdgesTest {
             Check.same("sheets stay", Check.sheet(x, "T"), "1");
             Check.same("a name that came only now", Check.code(x, "=NEW+kept"), "22 6 121");
             Check.same("as it came now", Check.printed(x), "=NEW+Kept");
+        }
+    }
+
+    private static void nothingIsLeftOfIllTexts() {
+        String[] refused = {
+            "=" + "f(1,".repeat(60), "=" + "(".repeat(61), "=" + "f(,,".repeat(60) + "{1,2;3", "={1,2;3,4",
+            "=" + "-".repeat(1023), "=1+2*3^(", "=SUM(1,2,3;", "=" + "1^".repeat(511), "=\"abc", "='T'!A1",
+            "=1E999+10E999",
+        };
+        for (String formula : refused) {
+            FormulaCode x = Check.fresh("S");
+            Check.text(x, formula);
+            Check.same("ill: " + formula, Check.compile(x), ILL);
+            Check.text(x, "=f(1,-2,,{3;4})+IF(S!A1,g())^\"x\"");
+            Check.same("behind " + formula, Check.compile(x), "33");
+            Check.same("behind " + formula, Check.code(x, 34), "0 0 1 0 0 0 2 0 217 7 0 0 3 0 0 0 4 0 40 1 75 0 "
+                + "4 0 1 1 11 1 50218 17 2013265920 185 121 0");
+            Check.same("printed behind " + formula, Check.printed(x), "=f(1,-2,,{3;4})+IF(S!A1,g())^\"x\"");
         }
     }
 
