@@ -24,6 +24,7 @@ public final class StateEdgesTest {
         numbersOfCode();
         charactersOfNames();
         partsOfReferences();
+        fiveHundredTwelveCalls();
         Check.finish();
     }
 
@@ -404,5 +405,22 @@ public final class StateEdgesTest {
         Check.compile(x);
         Check.same("the only one", x.reference(0, 1), 9);
         Check.same("no other", x.reference(1, 1), FormulaCode.NONE);
+    }
+
+    private static void fiveHundredTwelveCalls() {
+        FormulaCode x = new FormulaCode();
+        int calls = 0;
+        for (int round = 0; calls + 6 <= 512; round++) {
+            int digit = round % 10;
+            x.feed(0x3d000000 | ('0' + digit) << 16, 0, 0, 0, 0);
+            x.end(2);
+            Check.same("compile of round " + round, Check.compile(x), "4");
+            Check.same("word of round " + round, x.word(2), digit);
+            Check.same("print of round " + round, x.print(), 2);
+            Check.same("output of round " + round, x.output(1), '0' + digit);
+            calls += 6;
+        }
+        Check.same("call 511", x.end(1), false);
+        Check.same("call 512", x.names(), 0);
     }
 }
